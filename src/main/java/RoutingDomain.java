@@ -4,9 +4,10 @@ import java.util.NoSuchElementException;
 /**
  * A simulator of a link-state routing domain with areas, in the manner of OSPF.
  *
- * <p>Three numbers run through the file. A port is an end of a link: link * 2 + end, so that port ^ 1
- * is the other end and port >> 1 the link. A key numbers what an advertisement is about, area by area
- * in the order of the document. A version is an advertisement: key * SLOTS + (birth mod SLOTS).
+ * <p>Three numbers run through the file. A port is an end of a link: link * 2 + end, so that
+ * port ^ 1 is the other end and port >> 1 the link. A key numbers what an advertisement is about,
+ * area by area in the order of the document. A version is an advertisement: key * SLOTS + (birth
+ * mod SLOTS).
  */
 public final class RoutingDomain {
   private static final int ROUTERS = 16;
@@ -21,8 +22,8 @@ public final class RoutingDomain {
 
   private static final int LIFETIME = 60;
   private static final int REFRESH_AGE = 30;
-  // A key gets one version a tick at most and each is gone at the age of 60, so with 64 slots no two
-  // living versions of a key meet in one slot, and a slot tells the age.
+  // A key gets one version a tick at most and each is gone at the age of 60, so with 64 slots no
+  // two living versions of a key meet in one slot, and a slot tells the age.
   private static final int SLOT_BITS = 6;
   private static final int SLOTS = 1 << SLOT_BITS;
   private static final int SLOT_MASK = SLOTS - 1;
@@ -32,7 +33,7 @@ public final class RoutingDomain {
   private static final int PORT_BITS = 7;
   private static final int PORT_MASK = (1 << PORT_BITS) - 1;
   private static final int FIRST_MAIL_ROOM = 1024;
-  private static final int MOST_MAIL_ROOM = 1 << 24;
+  private static final int MOST_MAIL_ROOM = 1 << 20;
 
   private static final int NONE = -1;
   private static final int UNREACHABLE = -1;
@@ -619,7 +620,7 @@ public final class RoutingDomain {
   private static final class Databases {
     final int[] knownSequences = new int[KEYS];
     final boolean[] mustRenew = new boolean[KEYS];
-    /** By router and area: whether a router advertisement has changed since the paths were computed. */
+    // By router and area: only router advertisements make distances old, summaries do not.
     final boolean[] pathsAreOld = new boolean[ROUTERS * AREAS];
     private final int[] held = new int[ROUTERS * KEYS];
     // Most ticks let nothing expire; this count spares them the search through all databases.
@@ -627,9 +628,6 @@ public final class RoutingDomain {
 
     Databases() {
       Arrays.fill(held, NONE);
-      for (int i = 0; i < pathsAreOld.length; i++) {
-        pathsAreOld[i] = true;
-      }
     }
 
     int versionHeld(int router, int key) {
@@ -951,13 +949,14 @@ public final class RoutingDomain {
       areas[at] = best.areas;
     }
 
-    /** The cost that a border router has to tell in an area, NONE if it has nothing to tell there. */
+    /** The wanted cost of a border router, UNREACHABLE if there is none. */
     int costToTell(int router, int area, int network) {
       int at = routeAt(router, network);
       if (kinds[at] == INTER_AREA) {
-        return area == 0 ? NONE : costs[at];
+        return area == 0 ? UNREACHABLE : costs[at];
       }
-      return kinds[at] == INTRA_AREA && (areas[at] >> area & 1) == 0 ? costs[at] : NONE;
+      boolean isFromElsewhere = kinds[at] == INTRA_AREA && (areas[at] >> area & 1) == 0;
+      return isFromElsewhere ? costs[at] : UNREACHABLE;
     }
   }
 
@@ -966,8 +965,8 @@ public final class RoutingDomain {
     int lostCount;
     Mail sent = new Mail();
     private Mail arriving = new Mail();
-    // A router whose surroundings and databases are as they were has nothing to do before one of its
-    // own advertisements is old enough; until this tick it is passed over.
+    // A router whose surroundings and databases are as they were has nothing to do before one of
+    // its own advertisements is old enough; until this tick it is passed over.
     private final int[] nextWork = new int[ROUTERS];
     private final Topology topology;
     private final Advertisements advertisements;
@@ -1109,7 +1108,10 @@ public final class RoutingDomain {
         if (topology.touches(router, area)) {
           int key = routerKey(area, router);
           int own = databases.versionHeld(router, key);
-          if (isDue(own, key) || !advertisements.isUpToDate(own, router, area)) {
+          if (own == NONE
+              || databases.mustRenew[key]
+              || advertisements.ageOf(own) >= REFRESH_AGE
+              || !advertisements.isUpToDate(own, router, area)) {
             int version = advertisements.versionMadeNow(key);
             advertisements.describe(version, router, area);
             originate(version, router, area);
@@ -1120,11 +1122,28 @@ public final class RoutingDomain {
       }
     }
 
-    /** Whether there is a reason to originate anew other than the contents. */
-    private boolean isDue(int own, int key) {
-      return own == NONE
-          || advertisements.ageOf(own) >= REFRESH_AGE
-          || databases.mustRenew[key];
+    private void summarize(int router) {
+      for (int area = 0; area < AREAS; area++) {
+        for (int network = 0; network < NETWORKS && topology.touches(router, area); network++) {
+          int key = summaryKey(area, router, network);
+          int own = databases.versionHeld(router, key);
+          int wanted = routes.costToTell(router, area, network);
+          if (isSummaryDue(key, own, wanted)) {
+            int version = advertisements.versionMadeNow(key);
+            advertisements.summaryCosts[version] = wanted;
+            originate(version, router, area);
+          } else if (wanted != UNREACHABLE) {
+            noteRefresh(own, router);
+          }
+        }
+      }
+    }
+
+    private boolean isSummaryDue(int key, int own, int wanted) {
+      int told = own == NONE ? UNREACHABLE : advertisements.summaryCosts[own];
+      return told != wanted
+          || databases.mustRenew[key]
+          || (wanted != UNREACHABLE && advertisements.ageOf(own) >= REFRESH_AGE);
     }
 
     private void noteRefresh(int version, int router) {
@@ -1139,34 +1158,6 @@ public final class RoutingDomain {
       databases.mustRenew[key] = false;
       databases.replace(router, key, version);
       flood(version, router, area, NONE);
-    }
-
-    private void summarize(int router) {
-      for (int area = 0; area < AREAS; area++) {
-        if (topology.touches(router, area)) {
-          for (int network = 0; network < NETWORKS; network++) {
-            summarizeNetwork(router, area, network);
-          }
-        }
-      }
-    }
-
-    private void summarizeNetwork(int router, int area, int network) {
-      int key = summaryKey(area, router, network);
-      int own = databases.versionHeld(router, key);
-      int told = own == NONE ? UNREACHABLE : advertisements.summaryCosts[own];
-      int wanted = routes.costToTell(router, area, network);
-      boolean isNeeded =
-          wanted != NONE
-              ? told != wanted || isDue(own, key)
-              : told != UNREACHABLE || databases.mustRenew[key];
-      if (isNeeded) {
-        int version = advertisements.versionMadeNow(key);
-        advertisements.summaryCosts[version] = wanted != NONE ? wanted : UNREACHABLE;
-        originate(version, router, area);
-      } else if (wanted != NONE) {
-        noteRefresh(own, router);
-      }
     }
   }
 

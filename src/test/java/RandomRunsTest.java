@@ -7,6 +7,9 @@ import java.util.stream.LongStream;
 /** Compares RoutingDomain with PlainDomain in random runs of up to 512 calls each. */
 public final class RandomRunsTest {
   private static final int MOST_CALLS = 512;
+  private static final int[] EXTREMES = {
+    Integer.MIN_VALUE, Integer.MIN_VALUE + 1, -1, 1 << 16, 1 << 30, Integer.MAX_VALUE
+  };
   private static final int[] COUNTS = {2, 3, 4, 6, 9, 16};
 
   private final Random random;
@@ -162,7 +165,11 @@ public final class RandomRunsTest {
   }
 
   private int odd(int usual) {
-    return random.nextInt(40) == 0 ? random.nextInt(70) - 4 : usual;
+    int dice = random.nextInt(120);
+    if (dice == 0) {
+      return EXTREMES[random.nextInt(EXTREMES.length)];
+    }
+    return dice < 4 ? random.nextInt(70) - 4 : usual;
   }
 
   private int pick(int bound) {
