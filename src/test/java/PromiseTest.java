@@ -1,32 +1,8 @@
-import java.util.List;
-
 /**
  * The document's examples and its promises, as scripts of calls with the answers that are due. Each
  * script begins with new objects, a RoutingDomain and a PlainDomain.
  */
-public final class PromiseTest {
-  /** Two routers and a link between them. */
-  private static final String PAIR =
-      "addRouter() = 0; addRouter() = 1; addLink(0, 1, 0, 10, 20) = 0;";
-
-  /** Routers 0 - 1 - 2 in area 0; network 5 at router 2, cost 3. */
-  private static final String CHAIN =
-      """
-      addRouter(); addRouter(); addRouter();
-      addLink(0, 1, 0, 10, 20) = 0; addLink(1, 2, 0, 30, 40) = 1; announce(2, 0, 5, 3) = -1;
-      """;
-
-  /** Area 1: routers 0 - 1; area 0: 1 - 2; area 2: 2 - 3. Network 9 at router 0, cost 5. */
-  private static final String THREE_AREAS =
-      """
-      addRouter(); addRouter(); addRouter(); addRouter();
-      addLink(0, 1, 1, 1, 1) = 0; addLink(1, 2, 0, 2, 2) = 1; addLink(2, 3, 2, 4, 4) = 2;
-      announce(0, 1, 9, 5) = -1;
-      """;
-
-  private static int checked = 0;
-  private static int wrong = 0;
-
+public final class PromiseTest extends Suite {
   private PromiseTest() {}
 
   public static void main(String[] args) {
@@ -51,27 +27,7 @@ public final class PromiseTest {
     changedRoutesAreCounted();
     packetsAreTraced();
     digestIsComputed();
-    System.out.println(checked + " scripts, " + wrong + " wrong");
-    if (wrong != 0) {
-      System.exit(1);
-    }
-  }
-
-  private static void check(String name, String... scripts) {
-    String script = String.join(";", scripts);
-    for (Object domain : List.of(new RoutingDomain(), new PlainDomain())) {
-      checked++;
-      List<String> faults = Script.faults(domain, script);
-      if (!faults.isEmpty()) {
-        wrong++;
-        System.out.println(
-            name + " (" + domain.getClass().getName() + "): " + String.join("; ", faults));
-      }
-    }
-  }
-
-  private static String times(int count, String call) {
-    return (call + ";").repeat(count);
+    finish();
   }
 
   private static void examples() {
@@ -943,13 +899,5 @@ public final class PromiseTest {
         "promise 33: several areas",
         "addRouter(); addRouter(); addRouter(); addLink(0, 1, 3, 1, 1); addLink(0, 1, 1, 1, 1);",
         "digest() = " + digestOf(areas, new int[48]));
-  }
-
-  private static long digestOf(long start, int... numbers) {
-    long d = start;
-    for (int x : numbers) {
-      d = d * 31 + x;
-    }
-    return d;
   }
 }
