@@ -27,6 +27,7 @@ public final class SentenceTest extends Suite {
     knowledge();
     originating();
     arrival();
+    order();
     removal();
     losses();
     deliveryToTheOriginator();
@@ -336,6 +337,37 @@ public final class SentenceTest extends Suite {
         tick(1) = 30; databaseSize(0, 2) = 2; databaseSize(7, 2) = 3; inFlight() = 28; tick(13);
         databaseSize(0, 2) = 15; tick(1) = 2; databaseSize(0, 2) = 16; inFlight() = 0;
         agree(0, 15, 2) = true; lost() = 0; clock() = 16
+        """);
+  }
+
+  /** Of two equal messages the first one is taken; the link that it did not use carries it on. */
+  private static void order() {
+    check(
+        "taken in the order in which they were sent, whatever the routers' numbers",
+        """
+        addRouter(); addRouter(); addRouter(); addRouter();
+        addLink(3, 1, 0, 1, 1) = 0; addLink(3, 0, 0, 1, 1) = 1; addLink(0, 2, 0, 1, 1) = 2;
+        addLink(1, 2, 0, 1, 1) = 3; tick(6); inFlight() = 0; announce(3, 0, 0, 0); tick(1) = 0;
+        inFlight() = 2; tick(1) = 2; inFlight() = 2; tick(1) = 2; inFlight() = 1;
+        setLink(3, false); tick(1) = 1; lost() = 0
+        """);
+    check(
+        "For each router that is up, in ascending order, whatever the links' numbers",
+        """
+        addRouter(); addRouter(); addRouter(); addRouter();
+        addLink(1, 2, 0, 1, 1) = 0; addLink(0, 2, 0, 1, 1) = 1; addLink(0, 3, 0, 1, 1) = 2;
+        addLink(1, 3, 0, 1, 1) = 3; setLink(0, false); setLink(1, false); tick(6);
+        inFlight() = 0; databaseSize(2, 0) = 1; setLink(0, true); setLink(1, true); tick(1) = 0;
+        inFlight() = 14; tick(1) = 14; inFlight() = 12; setLink(0, false); tick(1) = 7; lost() = 5
+        """);
+    check(
+        "For each of its links, in ascending order",
+        """
+        addRouter(); addRouter(); addRouter();
+        addLink(0, 2, 0, 1, 1) = 0; addLink(0, 1, 0, 1, 1) = 1; addLink(0, 1, 0, 1, 1) = 2;
+        setLink(1, false); setLink(2, false); tick(6); inFlight() = 0; setLink(2, true);
+        setLink(1, true); tick(1) = 0; inFlight() = 11; tick(1) = 11; inFlight() = 7;
+        setLink(2, false); tick(1) = 2; lost() = 5
         """);
   }
 
