@@ -61,6 +61,13 @@ public final class PromiseTest extends Suite {
         routeCost(0, 2) = throws NoSuchElementException;
         announce(0, 1, 2, 3) = throws IllegalStateException
         """);
+    check(
+        "the example of README.md",
+        """
+        addRouter() = 0; addRouter() = 1; addLink(0, 1, 0, 10, 20) = 0; announce(1, 0, 4, 1) = -1;
+        tick(3); routeCost(0, 4) = 11; trace(0, 4) = 1; setLink(0, false); trace(0, 4) = -2;
+        tick(1); routeKind(0, 4) = 0
+        """);
   }
 
   private static void newObject() {

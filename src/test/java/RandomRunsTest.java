@@ -11,6 +11,8 @@ public final class RandomRunsTest {
     Integer.MIN_VALUE, Integer.MIN_VALUE + 1, -1, 1 << 16, 1 << 30, Integer.MAX_VALUE
   };
   private static final int[] COUNTS = {2, 3, 4, 6, 9, 16};
+  // Just below, at and above the ages at which advertisements are renewed and removed.
+  private static final int[] EDGES = {1, 1, 1, 2, 27, 28, 29, 30, 31, 57, 58, 59, 60};
 
   private final Random random;
   private final RoutingDomain fast = new RoutingDomain();
@@ -21,6 +23,7 @@ public final class RandomRunsTest {
   private final int areasWanted;
   private final int longestTick;
   private final int mostMetric;
+  private final boolean isAtEdges;
   private boolean isEqual = true;
 
   private RandomRunsTest(long seed) {
@@ -30,6 +33,7 @@ public final class RandomRunsTest {
     areasWanted = 1 + random.nextInt(4);
     longestTick = random.nextInt(3) == 0 ? 60 : 1 + random.nextInt(8);
     mostMetric = random.nextInt(3) == 0 ? 1000 : 1 + random.nextInt(10);
+    isAtEdges = random.nextInt(4) == 0;
   }
 
   public static void main(String[] args) {
@@ -71,7 +75,7 @@ public final class RandomRunsTest {
   private void step() {
     int dice = random.nextInt(100);
     if (dice < 30) {
-      same("tick", 1 + random.nextInt(longestTick));
+      same("tick", someTicks());
       same("digest");
       lookAtAll();
     } else if (dice < 60) {
@@ -186,6 +190,10 @@ public final class RandomRunsTest {
 
   private int someArea() {
     return odd(random.nextInt(areasWanted));
+  }
+
+  private int someTicks() {
+    return isAtEdges ? EDGES[random.nextInt(EDGES.length)] : 1 + random.nextInt(longestTick);
   }
 
   private int someNetwork() {
